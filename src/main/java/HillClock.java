@@ -1114,6 +1114,16 @@ public final class HillClock {
             return tape.which(hills.walkerNames, hills.walkers);
         }
 
+        /** Takes a walker and the word at behind him; NONE if one of them is wrong. */
+        private int takeWalkerAt() {
+            int walker = whichWalker();
+            if (walker == NONE) {
+                return NONE;
+            }
+            tape.step();
+            return tape.take(Word.AT) ? walker : NONE;
+        }
+
         private boolean readPlace() {
             if (!readNewName(hills.placeNames, hills.places)) {
                 return false;
@@ -1207,15 +1217,8 @@ public final class HillClock {
         }
 
         private boolean readWaits() {
-            int walker = whichWalker();
-            if (walker == NONE) {
-                return false;
-            }
-            tape.step();
-            if (!tape.take(Word.AT)) {
-                return false;
-            }
-            int place = whichPlace();
+            int walker = takeWalkerAt();
+            int place = walker == NONE ? NONE : whichPlace();
             if (place == NONE) {
                 return false;
             }
@@ -1247,15 +1250,8 @@ public final class HillClock {
             if (!readNewName(hills.hourNames, hour) || !tape.take(Word.BY)) {
                 return false;
             }
-            int walker = whichWalker();
-            if (walker == NONE) {
-                return false;
-            }
-            tape.step();
-            if (!tape.take(Word.AT)) {
-                return false;
-            }
-            int place = whichPlace();
+            int walker = takeWalkerAt();
+            int place = walker == NONE ? NONE : whichPlace();
             if (place == NONE) {
                 return false;
             }
