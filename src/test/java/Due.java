@@ -1,9 +1,20 @@
+import java.util.NoSuchElementException;
+
 /** Counts answers that are not as due, and feeds texts. */
 final class Due {
+    /** What stands for the answer of rests if it throws. */
+    static final int THROWS = -99;
+
     private static int wrong = 0;
     private static int asked = 0;
+    private static String within = "";
 
     private Due() {
+    }
+
+    /** What stands before all that is found wrong from now on. */
+    static void within(String what) {
+        within = what;
     }
 
     static void is(String what, long got, long want) {
@@ -11,7 +22,7 @@ final class Due {
         if (got != want) {
             wrong++;
             if (wrong <= 40) {
-                System.out.println(what + " answered " + got + ", due is " + want);
+                System.out.println(within + what + " answered " + got + ", due is " + want);
             }
         }
     }
@@ -47,6 +58,13 @@ final class Due {
         }
     }
 
+    /** A new object with hills told, in which there must be no fault. */
+    static HillClock told(String hills) {
+        HillClock clock = new HillClock();
+        is("hills " + hills, hills(clock, hills), 0);
+        return clock;
+    }
+
     static int hills(HillClock clock, String text) {
         feed(clock, text);
         return clock.hills();
@@ -55,5 +73,13 @@ final class Due {
     static int days(HillClock clock, String text) {
         feed(clock, text);
         return clock.days();
+    }
+
+    static int rests(HillClock clock, int one, int other, int gets, int what) {
+        try {
+            return clock.rests(one, other, gets, what);
+        } catch (NoSuchElementException e) {
+            return THROWS;
+        }
     }
 }

@@ -1,5 +1,3 @@
-import java.util.NoSuchElementException;
-
 /** Promises 17 to 27: what is seen and what time it can be, deputies, sure meetings, soonest, lonely, sets, rests, years. */
 public final class SearchesTest {
     /** p: a 10-13, b 23-26, c 34-; s: c 0, b 8, a 18-; i: b 20-28, a 33-; k: a 100-101, c 110-111, a 120-; n: a 5-. */
@@ -9,7 +7,7 @@ public final class SearchesTest {
         + "walker n plain start 5 pace 1 halt 0 round a d;"
         + "hour noon by p at b is 30;hour tea by k at c is 100;hour end by n at d is 7;";
     private static final String PAIR = "place a;place b;place d;path a b 5;";
-    private static final int THROWS = -99;
+    private static final int THROWS = Due.THROWS;
 
     private SearchesTest() {
     }
@@ -29,12 +27,6 @@ public final class SearchesTest {
         Due.end();
     }
 
-    private static HillClock told(String text) {
-        HillClock x = new HillClock();
-        Due.is("hills " + text, Due.hills(x, text), 0);
-        return x;
-    }
-
     private static void times(HillClock x, int many, int first, int last) {
         Due.is("times", x.times(0), many);
         Due.is("the first", x.times(1), first);
@@ -42,7 +34,7 @@ public final class SearchesTest {
     }
 
     private static void seenAndTimes() {
-        HillClock x = told(HILLS);
+        HillClock x = Due.told(HILLS);
         times(x, 240, 0, 239);
         Due.is("times below", x.times(-1), -1);
         Due.is("times beyond", x.times(3), -1);
@@ -67,7 +59,7 @@ public final class SearchesTest {
         Due.is("count", x.count(10), 8);
         x.dies(2);
         times(x, 0, -1, -1);
-        x = told(HILLS);
+        x = Due.told(HILLS);
         x.see(1, 1, false);
         x.see(1, 0, false);
         x.see(1, 2, false);
@@ -75,19 +67,19 @@ public final class SearchesTest {
     }
 
     private static void look() {
-        HillClock x = told(HILLS);
+        HillClock x = Due.told(HILLS);
         x.see(0, 1, true);
         Due.is("none parts them", x.look(), -1);
-        x = told(HILLS);
+        x = Due.told(HILLS);
         x.see(2, 1, true);
         Due.is("at b, 5 are alike of 9", x.look(), 1);
         x.see(0, 3, true);
         Due.is("no times", x.look(), -1);
-        x = told("place a;place b;path a b 9;walker v plain start 0 pace 1 halt 0 round a b;");
+        x = Due.told("place a;place b;path a b 9;walker v plain start 0 pace 1 halt 0 round a b;");
         Due.is("b: nobody 9, v 231; a: v 1, nobody 239", x.look(), 1);
         x.see(0, 0, true);
         Due.is("one time", x.look(), -1);
-        x = told("place a;place b;place d;walker v plain start 80 pace 1 halt 0 round a d;"
+        x = Due.told("place a;place b;place d;walker v plain start 80 pace 1 halt 0 round a d;"
             + "walker w plain start 80 pace 1 halt 0 round b d;");
         Due.is("of equal ones the first", x.look(), 0);
     }
@@ -100,7 +92,7 @@ public final class SearchesTest {
     }
 
     private static void deputies() {
-        HillClock x = told(HILLS);
+        HillClock x = Due.told(HILLS);
         row(x, 0, -1, -1, -1);
         Due.is("no hour", x.deputies(3), -2);
         Due.is("below", x.deputies(-2), -2);
@@ -121,27 +113,27 @@ public final class SearchesTest {
     private static void deputiesShared() {
         String three = PAIR + "walker x plain start 0 pace 1 halt 0 round a b;walker y plain start 3 pace 1 halt 0 round a b;"
             + "walker z plain start 9 pace 1 halt 0 round b a;";
-        HillClock x = told(three + "hour h by x at a is 3;hour i by x at a is 4;");
+        HillClock x = Due.told(three + "hour h by x at a is 3;hour i by x at a is 4;");
         x.dies(0);
         row(x, 10, 1, 2);
-        x = told(three + "hour h by x at a is 14;hour i by x at b is 9;");
+        x = Due.told(three + "hour h by x at a is 14;hour i by x at b is 9;");
         x.dies(0);
         row(x, 1, 2, 1);
-        x = told(three + "hour h by x at a is 3;hour i by x at a is 4;hour j by x at a is 5;");
+        x = Due.told(three + "hour h by x at a is 3;hour i by x at a is 4;hour j by x at a is 5;");
         x.dies(0);
         row(x, -2, -2, -2, -2);
-        x = told(three + "walker u plain start 9 pace 1 halt 0 round b a;hour h by x at b is 9;");
+        x = Due.told(three + "walker u plain start 9 pace 1 halt 0 round b a;hour h by x at b is 9;");
         x.dies(0);
         row(x, 0, 2);
         x.dies(2);
         row(x, 0, 3);
         x.late(3, 60);
         row(x, 1, 1);
-        x = told(PAIR + "walker x plain start 0 pace 1 halt 0 round a b;walker y plain start 0 pace 1 halt 0 round a d;"
+        x = Due.told(PAIR + "walker x plain start 0 pace 1 halt 0 round a b;walker y plain start 0 pace 1 halt 0 round a d;"
             + "hour h by y at d is 5;hour i by x at b is 5;");
         x.dies(0);
         row(x, -2, -2, -2);
-        x = told(PAIR + "walker x plain start 0 pace 1 halt 0 round a d;walker y plain start 0 pace 1 halt 0 round a d;"
+        x = Due.told(PAIR + "walker x plain start 0 pace 1 halt 0 round a d;walker y plain start 0 pace 1 halt 0 round a d;"
             + "hour h by y at d is 5;");
         x.dies(1);
         row(x, 240, 0);
@@ -153,7 +145,7 @@ public final class SearchesTest {
     }
 
     private static void sure() {
-        HillClock x = told(HILLS);
+        HillClock x = Due.told(HILLS);
         sure(x, 0, 4, 0, 10);
         sure(x, 0, 2, -1, -1);
         sure(x, 1, 2, 0, 38);
@@ -176,7 +168,7 @@ public final class SearchesTest {
     }
 
     private static void soonest() {
-        HillClock x = told(HILLS);
+        HillClock x = Due.told(HILLS);
         Due.is("p comes", x.soonest(0, 0, 1), 10);
         Due.is("there already", x.soonest(0, 13, 1), 13);
         Due.is("p is gone", x.soonest(0, 14, 1), 23);
@@ -212,7 +204,7 @@ public final class SearchesTest {
     }
 
     private static void lonely() {
-        HillClock x = told(HILLS);
+        HillClock x = Due.told(HILLS);
         lonely(x, 10, 0);
         Due.is("what", x.lonely(2), -1);
         Due.is("what below", x.lonely(-1), -1);
@@ -227,15 +219,15 @@ public final class SearchesTest {
         x.dies(2);
         lonely(x, 240, 0);
         String stays = PAIR + "walker v plain start 0 pace 1 halt 0 round a d;";
-        x = told(stays + "walker w plain start 9 pace 1 halt 0 round a b a;");
+        x = Due.told(stays + "walker w plain start 9 pace 1 halt 0 round a b a;");
         lonely(x, 9, 0);
         x.late(0, 9);
         lonely(x, 9, 0);
         x.late(0, 10);
         lonely(x, 19, 0);
-        x = told(stays + "walker w plain start 0 pace 2 halt 0 round a b a;");
+        x = Due.told(stays + "walker w plain start 0 pace 2 halt 0 round a b a;");
         lonely(x, 19, 1);
-        x = told(stays + "walker w plain start 0 pace 2 halt 0 round a d;");
+        x = Due.told(stays + "walker w plain start 0 pace 2 halt 0 round a d;");
         lonely(x, -1, -1);
     }
 
@@ -247,7 +239,7 @@ public final class SearchesTest {
     }
 
     private static void tellAndSets() {
-        HillClock x = told(HILLS);
+        HillClock x = Due.told(HILLS);
         sets(x, 10, 32, 0, 31, 0);
         Due.is("no hour", x.tell(3, 0), false);
         Due.is("hour below", x.tell(-1, 0), false);
@@ -281,7 +273,7 @@ public final class SearchesTest {
     }
 
     private static void setsByWaiting() {
-        HillClock x = told("place a;place b;path a b 10;walker x plain start 0 pace 1 halt 0 round b a;"
+        HillClock x = Due.told("place a;place b;path a b 10;walker x plain start 0 pace 1 halt 0 round b a;"
             + "walker y plain start 0 pace 1 halt 0 round b a;waits x at b for y 60;hour h by x at a is 0;");
         x.tell(0, 10);
         sets(x, 10, 1, 0, 0, 0);
@@ -291,7 +283,7 @@ public final class SearchesTest {
         sets(x, 10, 1, 1, 1, 1);
         x.tell(0, -1);
         sets(x, 10, 0, -1, -1, -1);
-        x = told("place a;place b;path a b 10;walker x plain start 0 pace 1 halt 0 round b a;"
+        x = Due.told("place a;place b;path a b 10;walker x plain start 0 pace 1 halt 0 round b a;"
             + "walker y plain start 5 pace 1 halt 0 round b a;walker z plain start 5 pace 1 halt 9 round b a;"
             + "waits y at b for x 7;waits z at b for y 20;waits x at b for z 9;hour h by y at a is 0;hour i by z at a is 0;");
         x.tell(0, 15);
@@ -299,11 +291,7 @@ public final class SearchesTest {
     }
 
     private static int rests(int one, int other, int gets, int what) {
-        try {
-            return new HillClock().rests(one, other, gets, what);
-        } catch (NoSuchElementException e) {
-            return THROWS;
-        }
+        return Due.rests(new HillClock(), one, other, gets, what);
     }
 
     private static void rests() {
@@ -336,47 +324,18 @@ public final class SearchesTest {
         Due.is("what far below", rests(0, 0, 0, Integer.MIN_VALUE), THROWS);
     }
 
-    private static long g;
-
-    private static int draw(int below) {
-        g = (g * 1103515245L + 12345L) % 2147483648L;
-        return (int) (g / 65536L % below);
-    }
-
     /** The same years, done by hand on an object of their own. */
     private static void years(HillClock x, HillClock byHand, int seed, int days) {
-        int cost = 0;
-        int none = 0;
-        int meetings = 0;
-        g = seed;
-        for (int d = 0; d < days; d++) {
-            if (draw(8) == 0) {
-                byHand.snow();
-            }
-            for (int w = 0; w < 5; w++) {
-                if (draw(4) == 0) {
-                    byHand.late(w, draw(30));
-                }
-            }
-            for (int h = 0; h < 3; h++) {
-                none += byHand.hour(h, 3) == -1 ? 1 : 0;
-            }
-            for (int w = 0; w < 5; w++) {
-                for (int o = 0; o < w; o++) {
-                    meetings += byHand.meet(w, o, 0) >= 0 ? 1 : 0;
-                }
-            }
-            cost += byHand.day();
+        int[] due = YearsByHand.sums(byHand, seed, days);
+        for (int what = 0; what < 3; what++) {
+            Due.is("years by " + seed + ", what " + what, x.years(seed, days, what), due[what]);
         }
-        Due.is("years' cost by " + seed, x.years(seed, days, 0), cost);
-        Due.is("years' none by " + seed, x.years(seed, days, 1), none);
-        Due.is("years' meetings by " + seed, x.years(seed, days, 2), meetings);
     }
 
     private static void years() {
         for (int seed = 0; seed < 10000; seed += 1111) {
-            HillClock x = told(HILLS + "missed off+days*3+none;");
-            HillClock byHand = told(HILLS + "missed off+days*3+none;");
+            HillClock x = Due.told(HILLS + "missed off+days*3+none;");
+            HillClock byHand = Due.told(HILLS + "missed off+days*3+none;");
             for (HillClock both : new HillClock[] {x, byHand}) {
                 both.day();
                 both.late(0, 25);
@@ -389,8 +348,8 @@ public final class SearchesTest {
             Due.is("and who is late", x.walker(0, 2), 25);
             Due.is("and what can be undone", x.count(12), 4);
         }
-        HillClock x = told(HILLS);
-        years(x, told(HILLS), 9999, 20);
+        HillClock x = Due.told(HILLS);
+        years(x, Due.told(HILLS), 9999, 20);
         Due.is("seed below", x.years(-1, 5, 0), -1);
         Due.is("seed beyond", x.years(10000, 5, 0), -1);
         Due.is("no day", x.years(0, 0, 0), -1);

@@ -29,14 +29,8 @@ public final class WalksTest {
         Due.end();
     }
 
-    private static HillClock told(String text) {
-        HillClock x = new HillClock();
-        Due.is("hills " + text, Due.hills(x, text), 0);
-        return x;
-    }
-
     private static void ways() {
-        HillClock x = told(HILLS);
+        HillClock x = Due.told(HILLS);
         Due.is("a path", x.way(0, 1), 5);
         Due.is("over another place", x.way(0, 2), 9);
         Due.is("the other way", x.way(2, 0), 9);
@@ -49,7 +43,7 @@ public final class WalksTest {
     }
 
     private static void walkers() {
-        HillClock x = told(HILLS);
+        HillClock x = Due.told(HILLS);
         for (int w = 0; w < 4; w++) {
             Due.is("kind " + w, x.walker(w, 0), w);
         }
@@ -78,7 +72,7 @@ public final class WalksTest {
     }
 
     private static void places() {
-        HillClock x = told(HILLS);
+        HillClock x = Due.told(HILLS);
         isAt(x, 0, -1, 0, 9);
         isAt(x, 0, 0, 10, 13);
         isAt(x, 0, -1, 14, 22);
@@ -105,7 +99,7 @@ public final class WalksTest {
     }
 
     private static void snowOnTheWay() {
-        HillClock x = told(HILLS);
+        HillClock x = Due.told(HILLS);
         x.snow();
         isAt(x, 0, 0, 10, 13);
         isAt(x, 0, -1, 14, 32);
@@ -119,7 +113,7 @@ public final class WalksTest {
     }
 
     private static HillClock waits(String walkersAndWaits) {
-        return told("place a;place b;path a b 10;" + walkersAndWaits);
+        return Due.told("place a;place b;path a b 10;" + walkersAndWaits);
     }
 
     private static void waiting() {
@@ -162,7 +156,7 @@ public final class WalksTest {
     }
 
     private static void hours() {
-        HillClock x = told(HILLS);
+        HillClock x = Due.told(HILLS);
         int[][] due = {{0, 1, 30, 23, 7, 7}, {3, 2, 100, 110, 10, 10}, {4, 3, 7, -1, 240, 240}};
         for (int h = 0; h < 3; h++) {
             for (int what = 0; what < 6; what++) {
@@ -174,7 +168,7 @@ public final class WalksTest {
         Due.is("what below", x.hour(0, -1), -2);
         Due.is("what beyond", x.hour(0, 6), -2);
         Due.is("far", x.hour(MAX, MIN), -2);
-        x = told("place a;place b;path a b 9;walker w plain start 200 pace 1 halt 30 round a b a;hour h by w at a is 0;"
+        x = Due.told("place a;place b;path a b 9;walker w plain start 200 pace 1 halt 30 round a b a;hour h by w at a is 0;"
             + "hour i by w at b is 239;hour j by w at b is 238;");
         Due.is("the first time there", x.hour(0, 3), 200);
         Due.is("in the last minute", x.hour(1, 3), 239);
@@ -189,7 +183,7 @@ public final class WalksTest {
     }
 
     private static void meetings() {
-        HillClock x = told(HILLS);
+        HillClock x = Due.told(HILLS);
         Due.is("p and i", x.meet(0, 2, 0), 23);
         Due.is("p and i where", x.meet(0, 2, 1), 1);
         Due.is("i and p", x.meet(2, 0, 0), 23);
@@ -205,14 +199,14 @@ public final class WalksTest {
         Due.is("walker below", x.meet(-1, 0, 0), -2);
         x.dies(2);
         Due.is("a dead one", x.meet(0, 2, 0), -1);
-        x = told("place a;place b;path a b 9;walker v plain start 5 pace 1 halt 1 round a b;"
+        x = Due.told("place a;place b;path a b 9;walker v plain start 5 pace 1 halt 1 round a b;"
             + "walker w plain start 6 pace 1 halt 0 round a b;walker z plain start 7 pace 1 halt 0 round a b;");
         Due.is("in the minute in which he goes", x.meet(0, 1, 0), 6);
         Due.is("gone", x.meet(0, 2, 0), 16);
     }
 
     private static void lateAndDead() {
-        HillClock x = told(HILLS);
+        HillClock x = Due.told(HILLS);
         Due.is("late", x.late(0, 60), true);
         Due.is("so late", x.walker(0, 2), 60);
         isAt(x, 0, -1, 14, 69);
@@ -238,7 +232,7 @@ public final class WalksTest {
     }
 
     private static void deputies() {
-        HillClock x = told(HILLS);
+        HillClock x = Due.told(HILLS);
         Due.is("it is his", x.deputy(0, 0), false);
         Due.is("not of his round", x.deputy(0, 3), false);
         Due.is("no hour", x.deputy(3, 0), false);
@@ -260,7 +254,7 @@ public final class WalksTest {
     }
 
     private static void daysPass() {
-        HillClock x = told(HILLS + "missed off+days*100;");
+        HillClock x = Due.told(HILLS + "missed off+days*100;");
         x.late(0, 4);
         Due.is("first day", x.day(), 3 + 10 + 240);
         Due.is("nobody is late", x.walker(0, 2), 0);
@@ -278,7 +272,7 @@ public final class WalksTest {
     }
 
     private static void undone() {
-        HillClock x = told(HILLS);
+        HillClock x = Due.told(HILLS);
         x.late(0, 7);
         x.late(0, 9);
         x.snow();
@@ -321,7 +315,7 @@ public final class WalksTest {
     }
 
     private static void judged() {
-        HillClock x = told(HILLS.replace("hour end by n at d is 7;", ""));
+        HillClock x = Due.told(HILLS.replace("hour end by n at d is 7;", ""));
         x.day();
         x.dies(0);
         x.late(1, 5);
@@ -354,7 +348,7 @@ public final class WalksTest {
     }
 
     private static void marks() {
-        HillClock x = told(HILLS);
+        HillClock x = Due.told(HILLS);
         Due.is("no mark", x.mark(4, false), false);
         Due.is("below", x.mark(-1, false), false);
         Due.is("below back", x.mark(-1, true), false);
@@ -401,7 +395,7 @@ public final class WalksTest {
     }
 
     private static void counts() {
-        HillClock x = told(HILLS + "waits p at b for s 5;");
+        HillClock x = Due.told(HILLS + "waits p at b for s 5;");
         Due.feed(x, "abc");
         x.tell(0, -1);
         x.tell(0, 5);
